@@ -95,6 +95,11 @@ public final class PromiseTests {
     }
 
     private static void newObject() {
+        due("NONE", NONE, -1);
+        due("UNKNOWN", UNKNOWN, -1000000001);
+        due("OUTSIDE", OUTSIDE, -1000000002);
+        due("NOT", NOT, -1000000003);
+        due("FULL", FULL, -1000000004);
         dueAsAtFirst(unlet());
         BitShadows one = unlet();
         one.set(0, 7);
@@ -106,7 +111,8 @@ public final class PromiseTests {
         due("start of a new one", unlet().start(), 0);
         BitShadows x = withTwoGrounds();
         x.load(0, 1);
-        x.rule(5, 1, 0, 0);
+        x.rule(5, 1, 1, 0);
+        due("SLACK there was", x.told(SLACK), 8);
         x.decide(0);
         x.giveBack(0);
         x.load(2, 2);
@@ -603,10 +609,11 @@ public final class PromiseTests {
         due("CRIES stay", x.told(CRIES), 1);
         due("MARK stays", x.mark(), mark);
         due("THE RING stays", x.ring(0, 0), 2);
+        int last = x.octet(5, VALUE);
         x.store(0, 5);
         x.let(4, 4);
         x.undo();
-        dueOctet(x, 5, x.octet(5, VALUE), 255, 2);
+        dueOctet(x, 5, last, 255, 2);
         due("its last GROUND stays", x.octet(5, 4), 2);
     }
 
@@ -825,8 +832,13 @@ public final class PromiseTests {
         due("sum, carry to the top", x.shadow(3, 127, 0, 0, 1), 255);
         due("sum, beyond the top", x.shadow(3, 128, 0, 0, 128), 128);
         due("sum, carry that is stopped", x.shadow(3, 1, 0, 0, 1), 3);
+        due("sum, both known", x.shadow(3, 200, 0, 100, 0), 0);
+        due("sum, the ends alike in a bit", x.shadow(3, 0, 1, 1, 2), 7);
         due("difference, borrow", x.shadow(4, 16, 0, 0, 1), 31);
         due("difference, below 0", x.shadow(4, 0, 0, 0, 16), 240);
+        due("difference, both known", x.shadow(4, 100, 0, 200, 0), 0);
+        due("difference, the ends alike in a bit", x.shadow(4, 8, 1, 0, 1), 15);
+        due("difference, unknown in one alone", x.shadow(4, 4, 3, 1, 1), 7);
         due("left", x.shadow(5, 0, 0b10010001, 1, 248), 0b00100010);
         due("right", x.shadow(6, 0, 0b10010001, 1, 248), 0b01001000);
         due("left by 7", x.shadow(5, 0, 3, 15, 0), 128);
