@@ -22,7 +22,8 @@ public final class BitShadows {
     private static final int CRY_DECISION = 0, CRY_PLACE = 1, CRY_DEAD = 2;
 
     private final House house = new House();
-    private final House[] images = new House[IMAGES];
+    private final House firstImage = new House();
+    private final House secondImage = new House();
     private final Grounds grounds = new Grounds();
     private final Cries cries = new Cries();
     private final Ring lastDone = new Ring();
@@ -34,9 +35,6 @@ public final class BitShadows {
     private long markNow;
 
     public BitShadows() {
-        for (int i = 0; i < IMAGES; i++) {
-            images[i] = new House();
-        }
         begin();
     }
 
@@ -160,7 +158,7 @@ public final class BitShadows {
         }
         int ground = grounds.open(a, n);
         for (int o = a; o < a + n; o++) {
-            house.cells[REGISTERS + o] = Cell.of(nextLot(256), BYTE, 1 << ground);
+            house.cells[REGISTERS + o] = Cell.of(nextLot() % 256, BYTE, 1 << ground);
         }
         house.dead &= ~octetSet(a, n);
         return tick(DID_LET, ground);
@@ -322,7 +320,7 @@ public final class BitShadows {
         if (!isImage(i)) {
             return UNKNOWN;
         }
-        images[i].becomeAs(house);
+        imageOf(i).becomeAs(house);
         keptImages |= 1 << i;
         changes.clear();
         return 1;
@@ -335,7 +333,7 @@ public final class BitShadows {
         if (((keptImages >> i) & 1) == 0) {
             return NOT;
         }
-        house.becomeAs(images[i]);
+        house.becomeAs(imageOf(i));
         changes.clear();
         return 1;
     }
@@ -365,6 +363,10 @@ public final class BitShadows {
 
     private static boolean isImage(int i) {
         return i >= 0 && i < IMAGES;
+    }
+
+    private House imageOf(int i) {
+        return i == 0 ? firstImage : secondImage;
     }
 
     private static boolean isByte(int v) {
@@ -427,26 +429,26 @@ public final class BitShadows {
         return tick(DID_RULE, shadowOfRegister(r));
     }
 
-    private int nextLot(int bound) {
+    private int nextLot() {
         lotNow = (int) ((long) lotNow * LOT_FACTOR % LOT_DIVISOR);
-        return lotNow % bound;
+        return lotNow;
     }
 
     private void doByLots() {
-        int kind = nextLot(4);
+        int kind = nextLot() % 4;
         if (kind == 0) {
-            int sort = nextLot(SORTS);
-            int r = nextLot(REGISTERS);
-            int a = nextLot(REGISTERS);
-            followRule(sort, r, a, nextLot(REGISTERS));
+            int sort = nextLot() % SORTS;
+            int r = nextLot() % REGISTERS;
+            int a = nextLot() % REGISTERS;
+            followRule(sort, r, a, nextLot() % REGISTERS);
         } else if (kind == 1) {
-            int r = nextLot(REGISTERS);
-            load(r, nextLot(OCTETS));
+            int r = nextLot() % REGISTERS;
+            load(r, nextLot() % OCTETS);
         } else if (kind == 2) {
-            int r = nextLot(REGISTERS);
-            store(r, nextLot(OCTETS));
+            int r = nextLot() % REGISTERS;
+            store(r, nextLot() % OCTETS);
         } else {
-            decide(nextLot(REGISTERS));
+            decide(nextLot() % REGISTERS);
         }
     }
 
